@@ -38,15 +38,23 @@ final class Checks {
         }
     }
 
+    /** Range r is the versions from low to high; few calls, as an object is only good for 512. */
     static void dueSpan(String call, SemverRanges x, int r, int low, int high) {
-        for (int v = 0; v <= 999; v++) {
-            boolean want = v >= low && v <= high;
-            if (x.has(r, v) != want) {
-                due(call + ": has(" + r + ", " + v + ")", !want, want);
-                return;
-            }
-        }
-        right++;
+        due(call + ": count(" + r + ")", x.count(r), high - low + 1);
+        due(call + ": stretches(" + r + ")", x.stretches(r), 1);
+        due(call + ": atLeast(" + r + ", 0)", x.atLeast(r, 0), low);
+        due(call + ": atMost(" + r + ", 999)", x.atMost(r, 999), high);
+        due(call + ": has(" + r + ", " + (low - 1) + ")", x.has(r, low - 1), false);
+        due(call + ": has(" + r + ", " + low + ")", x.has(r, low), true);
+        due(call + ": has(" + r + ", " + high + ")", x.has(r, high), true);
+        due(call + ": has(" + r + ", " + (high + 1) + ")", x.has(r, high + 1), false);
+    }
+
+    static void dueEmpty(String call, SemverRanges x, int r) {
+        due(call + ": count(" + r + ")", x.count(r), 0);
+        due(call + ": stretches(" + r + ")", x.stretches(r), 0);
+        due(call + ": atLeast(" + r + ", 0)", x.atLeast(r, 0), NONE);
+        due(call + ": atMost(" + r + ", 999)", x.atMost(r, 999), NONE);
     }
 
     /** Ends the test; to be called last. */

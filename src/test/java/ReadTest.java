@@ -8,6 +8,7 @@ public final class ReadTest {
         carets();
         clausesAndRanges();
         notARange();
+        wipedCharactersAreGone();
         orderOfTests();
         whatReadChanges();
         Checks.end();
@@ -89,6 +90,10 @@ public final class ReadTest {
         span("^0.0", 0, 9);
         span("^0.0.0", 0, 0);
         span("^0.0.5", 5, 5);
+        span("^1.0.0", 100, 199);
+        span("^0.1.0", 10, 19);
+        span("^0.0.9", 9, 9);
+        span("^0.9.9", 99, 99);
         span("^9.9.9", 999, 999);
     }
 
@@ -148,6 +153,21 @@ public final class ReadTest {
         }
     }
 
+    private static void wipedCharactersAreGone() {
+        String[] before = {"1.2.3", "<=1", "1 2", "1|2", "1-2", "^1", "~1", "*"};
+        for (String whole : before) {
+            for (int kept = 0; kept < whole.length(); kept++) {
+                SemverRanges x = new SemverRanges();
+                Checks.type(x, whole);
+                x.wipe();
+                Checks.type(x, whole.substring(0, kept));
+                boolean isRange = kept > 0 && whole.charAt(kept - 1) >= '0' && whole.charAt(kept - 1) <= '9';
+                String call = "read(0) of \"" + whole.substring(0, kept) + "\" after \"" + whole + "\" was wiped";
+                Checks.due(call + " is a count", x.read(0) >= 0, isRange);
+            }
+        }
+    }
+
     private static void orderOfTests() {
         int[] wrong = {-1, 4, 5, 1000, Integer.MIN_VALUE, Integer.MAX_VALUE};
         for (int r : wrong) {
@@ -190,7 +210,6 @@ public final class ReadTest {
         Checks.type(x, text);
         Checks.due("read(1) of \"" + text + "\"", x.read(1), high - low + 1);
         Checks.due("wipe() after \"" + text + "\"", x.wipe(), 0);
-        Checks.due("stretches(1) of \"" + text + "\"", x.stretches(1), 1);
         Checks.dueSpan("\"" + text + "\"", x, 1, low, high);
     }
 
@@ -200,7 +219,6 @@ public final class ReadTest {
         Checks.type(x, text);
         Checks.due("read(1) of \"" + text + "\"", x.read(1), 0);
         Checks.due("wipe() after \"" + text + "\"", x.wipe(), 0);
-        Checks.due("stretches(1) of \"" + text + "\"", x.stretches(1), 0);
-        Checks.due("atLeast of \"" + text + "\"", x.atLeast(1, 0), Checks.NONE);
+        Checks.dueEmpty("\"" + text + "\"", x, 1);
     }
 }
