@@ -9,6 +9,7 @@ public final class ReadTest {
         clausesAndRanges();
         notARange();
         wipedCharactersAreGone();
+        fullTextThatBreaksOff();
         orderOfTests();
         whatReadChanges();
         Checks.end();
@@ -165,6 +166,18 @@ public final class ReadTest {
                 String call = "read(0) of \"" + whole.substring(0, kept) + "\" after \"" + whole + "\" was wiped";
                 Checks.due(call + " is a count", x.read(0) >= 0, isRange);
             }
+        }
+    }
+
+    private static void fullTextThatBreaksOff() {
+        String before = "1.2.3|2.3.4|3.4.5|4.5.6|5.6.7|6.7.8|";
+        String[] ends = {"7.8.", "7.8|", "7.8 ", "7.8-", "7.8=", "7|<=", "7 >=", "7 *^", "7||~"};
+        for (String end : ends) {
+            SemverRanges x = new SemverRanges();
+            String whole = before + end;
+            Checks.type(x, whole);
+            Checks.due("read(0) of \"" + whole + "\"", x.read(0), Checks.NONE);
+            Checks.due("wipe() after it", x.wipe(), 40);
         }
     }
 
