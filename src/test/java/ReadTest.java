@@ -1,237 +1,147 @@
-/** Promise 4: read. */
+/** Promise 4, sentence by sentence: read. What texts mean is in GrammarTest and ItemsTest. */
 public final class ReadTest {
+    private static final String[] NO_TEXTS = {"", "1.", "8.8|", "8 7 |", "<=", "8|7|6.6.6.6"};
+
     public static void main(String[] args) {
-        partials();
-        comparisons();
-        spans();
-        tildes();
-        carets();
-        clausesAndRanges();
-        notARange();
-        wipedCharactersAreGone();
-        fullTextThatBreaksOff();
-        orderOfTests();
-        whatReadChanges();
+        Checks.sentence("4: r outside 0..3: BAD", ReadTest::noRange);
+        Checks.sentence("4: Tested in this order", ReadTest::badBeforeNone);
+        Checks.sentence("4: (BAD changes nothing)", ReadTest::badChangesNothing);
+        Checks.sentence("4: the text is not a range by the grammar: NONE", ReadTest::noText);
+        Checks.sentence("4: (the range stays)", ReadTest::rangeStays);
+        Checks.sentence("4: (NONE leaves the text)", ReadTest::noneLeavesText);
+        Checks.sentence("4: Else range r becomes this set", ReadTest::becomesSet);
+        Checks.sentence("4: the text becomes empty", ReadTest::textBecomesEmpty);
+        Checks.sentence("4: the number of versions in the range is answered", ReadTest::answersNumber);
+        Checks.sentence("No range ever has more than 24 stretches: read", ReadTest::mostStretches);
         Checks.end();
     }
 
-    private static void partials() {
-        span("*", 0, 999);
-        span("0", 0, 99);
-        span("9", 900, 999);
-        span("1.2", 120, 129);
-        span("0.0", 0, 9);
-        span("9.9", 990, 999);
-        span("1.2.3", 123, 123);
-        span("0.0.0", 0, 0);
-        span("9.9.9", 999, 999);
-    }
-
-    private static void comparisons() {
-        span("<3", 0, 299);
-        span("<3.4", 0, 339);
-        span("<3.4.5", 0, 344);
-        span("<=3", 0, 399);
-        span("<=3.4", 0, 349);
-        span("<=3.4.5", 0, 345);
-        span(">3", 400, 999);
-        span(">3.4", 350, 999);
-        span(">3.4.5", 346, 999);
-        span(">=3", 300, 999);
-        span(">=3.4", 340, 999);
-        span(">=3.4.5", 345, 999);
-        none("<0");
-        none("<0.0");
-        none("<0.0.0");
-        none(">9");
-        none(">9.9");
-        none(">9.9.9");
-        span("<0.0.1", 0, 0);
-        span(">9.9.8", 999, 999);
-        span("<=9", 0, 999);
-        span(">=0", 0, 999);
-    }
-
-    private static void spans() {
-        span("1-2", 100, 299);
-        span("1.5-2", 150, 299);
-        span("1-2.5", 100, 259);
-        span("1.2.3-4.5.6", 123, 456);
-        span("3.4-3.4", 340, 349);
-        span("1.2.5-1.2", 125, 129);
-        span("1.2-1.2.5", 120, 125);
-        span("7.7.7-7.7.7", 777, 777);
-        span("0-9", 0, 999);
-        none("2-1");
-        none("1.2-1.1");
-        none("1.2.4-1.2.3");
-        none("9-0");
-    }
-
-    private static void tildes() {
-        span("~3", 300, 399);
-        span("~3.4", 340, 349);
-        span("~3.4.5", 345, 349);
-        span("~0", 0, 99);
-        span("~0.0", 0, 9);
-        span("~0.0.7", 7, 9);
-        span("~9.9.9", 999, 999);
-        span("~3.0", 300, 309);
-    }
-
-    private static void carets() {
-        span("^3", 300, 399);
-        span("^3.4", 340, 399);
-        span("^3.4.5", 345, 399);
-        span("^3.0", 300, 399);
-        span("^3.0.0", 300, 399);
-        span("^0", 0, 99);
-        span("^0.4", 40, 49);
-        span("^0.4.5", 45, 49);
-        span("^0.0", 0, 9);
-        span("^0.0.0", 0, 0);
-        span("^0.0.5", 5, 5);
-        span("^1.0.0", 100, 199);
-        span("^0.1.0", 10, 19);
-        span("^0.0.9", 9, 9);
-        span("^0.9.9", 99, 99);
-        span("^9.9.9", 999, 999);
-    }
-
-    private static void clausesAndRanges() {
-        span(">=1.2 <3", 120, 299);
-        span("<3 >=1.2", 120, 299);
-        span("* * 1", 100, 199);
-        span("1 1.2 1.2.3", 123, 123);
-        span("1-5 3-8 ^4.2", 420, 499);
-        none("1 2");
-        none("2 <0 *");
-        none("2-1 *");
-        span("2-1|4", 400, 499);
-        span("1 2|4", 400, 499);
-        span("4|1 2", 400, 499);
-        span("1|2|3", 100, 399);
-        span("3|1|2", 100, 399);
-        span("1-4|3-6", 100, 699);
-        span("1.2.3|*", 0, 999);
-        SemverRanges x = new SemverRanges();
-        Checks.type(x, "<1 >0.8|>9.8 *|5.5.5|5.5.7 5.5");
-        Checks.due("read of four clauses", x.read(0), 22);
-        Checks.due("its stretches", x.stretches(0), 4);
-        Checks.due("first", x.atLeast(0, 0), 90);
-        Checks.due("last of the first", x.atMost(0, 500), 99);
-        Checks.due("between", x.has(0, 556), false);
-        Checks.due("begin of the last", x.atLeast(0, 558), 990);
-        Checks.type(x, "0.0.1|0.0.3|0.0.5|0.0.7|0.0.9|1.1.1|3|5");
-        Checks.due("read of eight clauses", x.read(3), 206);
-        Checks.due("its stretches", x.stretches(3), 8);
-        Checks.type(x, "0|2|4|6|8|0|2|4|6|8|0|2|4|6|8|0|2|4|6|8");
-        Checks.due("read of twenty clauses", x.read(2), 500);
-        Checks.due("its stretches", x.stretches(2), 5);
-        Checks.type(x, "* * * * * * * * * * * * * * * * * * * 3");
-        Checks.due("read of twenty items", x.read(2), 100);
-    }
-
-    private static void notARange() {
-        String[] texts = {
-            "", " ", "|", ".", "-", "<", ">", "=", "^", "~", "<=", ">=",
-            " 1", "1 ", "1  2", "1 |2", "1| 2", "|1", "1|", "1||2", "1 | 2",
-            "1.", ".1", "1..2", "1.2.", "1.2.3.", "1.2.3.4", "12", "1.23", "1.2.34", "1. 2",
-            "=1", "==1", "<>1", "><1", "<<1", ">>1", "=<1", "=>1", "<==1", ">==1", "< 1", "<= 1", "< =1",
-            "^ 1", "^^1", "~~1", "^~1", "~^1", "^<1", "<^1", "~>1", "^=1", "1^", "1~", "1<", "1<2", "1>2", "1=",
-            "1-", "-1", "1--2", "1-2-3", "1 -2", "1- 2", "1 - 2", "1-*", "*-1", "1-<2", "<1-2", "^1-2", "~1-2",
-            ">=1-2", "1-^2", "1.-2", "1-2.", "1-.2", "1-23",
-            "**", "*1", "1*", "*.1", "1.*", "<*", "^*", "~*", "* ", " *", "*|", "|*", "*  *", "*||*",
-            "1|2 ", "1 2|", "1|2|", "1 2 3.", "1 <", "1|^",
-        };
-        for (String text : texts) {
+    private static void noRange() {
+        for (int r : Checks.noRanges()) {
             SemverRanges x = new SemverRanges();
-            Checks.set(x, 2, "^4.5");
-            Checks.type(x, text);
-            Checks.due("read(2) of \"" + text + "\"", x.read(2), Checks.NONE);
-            Checks.due("wipe() after it", x.wipe(), text.length());
-            Checks.dueSpan("the range after it", x, 2, 450, 499);
-        }
-    }
-
-    private static void wipedCharactersAreGone() {
-        String[] before = {"1.2.3", "<=1", "1 2", "1|2", "1-2", "^1", "~1", "*"};
-        for (String whole : before) {
-            for (int kept = 0; kept < whole.length(); kept++) {
-                SemverRanges x = new SemverRanges();
-                Checks.type(x, whole);
-                x.wipe();
-                Checks.type(x, whole.substring(0, kept));
-                boolean isRange = kept > 0 && whole.charAt(kept - 1) >= '0' && whole.charAt(kept - 1) <= '9';
-                String call = "read(0) of \"" + whole.substring(0, kept) + "\" after \"" + whole + "\" was wiped";
-                Checks.due(call + " is a count", x.read(0) >= 0, isRange);
-            }
-        }
-    }
-
-    private static void fullTextThatBreaksOff() {
-        String before = "1.2.3|2.3.4|3.4.5|4.5.6|5.6.7|6.7.8|";
-        String[] ends = {"7.8.", "7.8|", "7.8 ", "7.8-", "7.8=", "7|<=", "7 >=", "7 *^", "7||~"};
-        for (String end : ends) {
-            SemverRanges x = new SemverRanges();
-            String whole = before + end;
-            Checks.type(x, whole);
-            Checks.due("read(0) of \"" + whole + "\"", x.read(0), Checks.NONE);
-            Checks.due("wipe() after it", x.wipe(), 40);
-        }
-    }
-
-    private static void orderOfTests() {
-        int[] wrong = {-1, 4, 5, 1000, Integer.MIN_VALUE, Integer.MAX_VALUE};
-        for (int r : wrong) {
-            SemverRanges x = new SemverRanges();
-            Checks.due("read(" + r + ") of no text", x.read(r), Checks.BAD);
             Checks.type(x, "1.2");
             Checks.due("read(" + r + ") of a range", x.read(r), Checks.BAD);
-            Checks.due("the text stays", x.wipe(), 3);
-            for (int other = 0; other < 4; other++) {
-                Checks.due("count(" + other + ")", x.count(other), 0);
+        }
+        for (int r = 0; r < 4; r++) {
+            SemverRanges x = new SemverRanges();
+            Checks.type(x, "1.2");
+            Checks.due("read(" + r + ") of a range", x.read(r), 10);
+        }
+    }
+
+    private static void badBeforeNone() {
+        for (int r : Checks.noRanges()) {
+            for (String text : NO_TEXTS) {
+                SemverRanges x = new SemverRanges();
+                Checks.type(x, text);
+                Checks.due("read(" + r + ") of \"" + text + "\"", x.read(r), Checks.BAD);
             }
         }
     }
 
-    private static void whatReadChanges() {
+    private static void badChangesNothing() {
+        for (int r : Checks.noRanges()) {
+            SemverRanges x = Checks.with("0", "1", "2", "3");
+            Checks.type(x, "7.7");
+            x.read(r);
+            for (int other = 0; other < 4; other++) {
+                Checks.dueSpan("after read(" + r + ")", x, other, 100 * other, 100 * other + 99);
+            }
+            Checks.due("the text stays", x.read(0), 10);
+        }
+    }
+
+    private static void noText() {
+        for (int r = 0; r < 4; r++) {
+            for (String text : NO_TEXTS) {
+                SemverRanges x = new SemverRanges();
+                Checks.type(x, text);
+                Checks.due("read(" + r + ") of \"" + text + "\"", x.read(r), Checks.NONE);
+                Checks.due("and again", x.read(r), Checks.NONE);
+            }
+        }
+    }
+
+    private static void rangeStays() {
+        for (String text : NO_TEXTS) {
+            SemverRanges x = Checks.with("0", "1", "2", "3");
+            Checks.type(x, text);
+            for (int r = 0; r < 4; r++) {
+                x.read(r);
+                Checks.dueSpan("after read(" + r + ") of \"" + text + "\"", x, r, 100 * r, 100 * r + 99);
+            }
+            // What the failed readings left behind must not get into the next one.
+            x.wipe();
+            Checks.set(x, 0, "5.5");
+            Checks.dueSpan("read after them", x, 0, 550, 559);
+        }
+    }
+
+    private static void noneLeavesText() {
+        for (String text : NO_TEXTS) {
+            SemverRanges x = new SemverRanges();
+            Checks.type(x, text);
+            x.read(0);
+            Checks.due("wipe() after read of \"" + text + "\"", x.wipe(), text.length());
+        }
         SemverRanges x = new SemverRanges();
-        for (int r = 0; r < 4; r++) {
-            Checks.set(x, r, "" + r);
-        }
-        for (int r = 0; r < 4; r++) {
-            Checks.due("each range is its own: count", x.count(r), 100);
-            Checks.due("each range is its own: low", x.atLeast(r, 0), 100 * r);
-        }
-        Checks.type(x, "7.7");
-        Checks.due("read(1)", x.read(1), 10);
-        Checks.due("the text is empty", x.wipe(), 0);
-        Checks.due("the old set is gone", x.has(1, 100), false);
-        Checks.due("the new set is there", x.has(1, 770), true);
-        Checks.due("read(1) of no text", x.read(1), Checks.NONE);
-        Checks.due("the range stays", x.count(1), 10);
         Checks.type(x, "8.8|");
-        Checks.due("read(1) of half a range", x.read(1), Checks.NONE);
+        x.read(1);
         Checks.due("type goes on behind it", x.type('9'), 5);
         Checks.due("read(1) of the whole", x.read(1), 110);
-        Checks.due("what was read before is not in it", x.has(1, 770), false);
     }
 
-    private static void span(String text, int low, int high) {
-        SemverRanges x = new SemverRanges();
-        Checks.type(x, text);
-        Checks.due("read(1) of \"" + text + "\"", x.read(1), high - low + 1);
-        Checks.due("wipe() after \"" + text + "\"", x.wipe(), 0);
-        Checks.dueSpan("\"" + text + "\"", x, 1, low, high);
-    }
-
-    private static void none(String text) {
-        SemverRanges x = new SemverRanges();
+    private static void becomesSet() {
+        SemverRanges x = Checks.with("0", "1", "2", "3");
+        for (int r = 0; r < 4; r++) {
+            Checks.dueSpan("each range is its own", x, r, 100 * r, 100 * r + 99);
+        }
+        Checks.set(x, 1, "7.7");
+        Checks.dueSpan("the old set is gone", x, 1, 770, 779);
+        Checks.dueSpan("range 0 stays", x, 0, 0, 99);
+        Checks.dueSpan("range 2 stays", x, 2, 200, 299);
+        Checks.dueSpan("range 3 stays", x, 3, 300, 399);
+        Checks.set(x, 1, "2-1");
+        Checks.dueEmpty("an empty set", x, 1);
         Checks.set(x, 1, "*");
-        Checks.type(x, text);
-        Checks.due("read(1) of \"" + text + "\"", x.read(1), 0);
-        Checks.due("wipe() after \"" + text + "\"", x.wipe(), 0);
-        Checks.dueEmpty("\"" + text + "\"", x, 1);
+        Checks.dueSpan("the set of all", x, 1, 0, 999);
+    }
+
+    private static void textBecomesEmpty() {
+        String[] texts = {"1", "*", "2-1", "1.2.3|2.3.4|3.4.5|4.5.6|5.6.7|6.7.8|^7.8"};
+        for (String text : texts) {
+            SemverRanges x = Checks.with(text);
+            Checks.due("wipe() after read of \"" + text + "\"", x.wipe(), 0);
+            SemverRanges y = Checks.with(text);
+            Checks.due("read(0) after read of \"" + text + "\"", y.read(0), Checks.NONE);
+            Checks.due("type('1') after it", y.type('1'), 1);
+            Checks.due("read(0) of \"1\"", y.read(0), 100);
+        }
+    }
+
+    private static void answersNumber() {
+        String[] texts = {"2-1", "<0", "1.2.3", "0.0.0|9.9.9", "1-4|3-6", "1|1|1", "1.2.3|1", "*|*", ">0.0.0"};
+        int[] numbers = {0, 0, 1, 2, 600, 100, 100, 1000, 999};
+        for (int i = 0; i < texts.length; i++) {
+            for (int r = 0; r < 4; r++) {
+                SemverRanges x = new SemverRanges();
+                Checks.type(x, texts[i]);
+                Checks.due("read(" + r + ") of \"" + texts[i] + "\"", x.read(r), numbers[i]);
+            }
+        }
+    }
+
+    /** No text of 40 characters comes near to 24 stretches: none of these is refused. */
+    private static void mostStretches() {
+        SemverRanges x = new SemverRanges();
+        Checks.type(x, "0|2|4|6|8|1.2|1.5|1.7|3.5|5.5|7.5|9.5");
+        Checks.due("read of twelve stretches", x.read(0), 570);
+        Checks.due("stretches", x.stretches(0), 12);
+        Checks.type(x, "9.5|7.5|5.5|3.5|1.7|1.5|1.2|8|6|4|2|0");
+        Checks.due("read of them the other way", x.read(1), 570);
+        Checks.due("stretches", x.stretches(1), 12);
+        Checks.type(x, "0.0.1|0.0.3|0.0.5|0.0.7|0.0.9|1.1.1|3|5");
+        Checks.due("read of eight stretches", x.read(2), 206);
+        Checks.due("stretches", x.stretches(2), 8);
     }
 }
