@@ -19,14 +19,13 @@ public final class GrammarTest {
     }
 
     private static void fullTexts() {
-        String[] ends = {"^7.8", "~7.8", ">7.8", "7-.8", "7|8|", "7 8 ", "7.8.", "7.8-", "7.8=", "7|<=", "7 >=", "7 *^", "7||~"};
+        String[] ends = {"^7.8", "~7.8", ">7.8", "7|^8", "7 <8", "^7 8", "^7|8", "^7|*", "^7 *"};
         for (String end : ends) {
-            boolean isRange = end.endsWith("7.8");
-            SemverRanges x = new SemverRanges();
-            Checks.type(x, ALMOST_FULL + end);
-            String call = "read(0) of 40 characters that end in \"" + end + "\"";
-            Checks.due(call + " is a count", x.read(0) >= 0, isRange);
-            Checks.due("wipe() after it", x.wipe(), isRange ? 0 : 40);
+            yes(ALMOST_FULL + end);
+        }
+        String[] noEnds = {"7-.8", "7|8|", "7 8 ", "7.8.", "7.8-", "7.8=", "7|<=", "7 >=", "7 *^", "7||~", "7.88", "^7*8", "|7.8"};
+        for (String end : noEnds) {
+            Checks.dueNotRead(ALMOST_FULL + end);
         }
         Checks.dueRead("* * * * * * * * * * * * * * * * * * * ^3", 300, 399);
         Checks.dueRead("3|3|3|3|3|3|3|3|3|3|3|3|3|3|3|3|3|3|3|^3", 300, 399);
@@ -69,12 +68,12 @@ public final class GrammarTest {
     private static void compares() {
         yes("<1", "<=1", ">1", ">=1", "<1.2", "<=1.2", ">1.2.3", ">=1.2.3");
         no("<", "<=", ">", ">=", "=", "=1", "==1", "=<1", "=>1", "<==1", ">==1", "<<1", ">>1", "<>1", "><1", "<=>1");
-        no("1<2", "1>2", "1=2", "1<=2", "<^1", "<~1", ">^1", ">=~1", "^=1", "~=1");
+        no("1<2", "1>2", "1=2", "1<=2", "<^1", "<~1", ">^1", ">=~1");
     }
 
     private static void caretsAndTildes() {
         yes("^1", "~1", "^1.2", "~1.2", "^1.2.3", "~1.2.3");
-        no("^", "~", "^^1", "~~1", "^~1", "~^1", "^<1", "^>=1", "~>1", "~<=1", "1^", "1~", "1^2", "1~2");
+        no("^", "~", "^=1", "~=1", "^^1", "~~1", "^~1", "~^1", "^<1", "^>=1", "~>1", "~<=1", "1^", "1~", "1^2", "1~2");
     }
 
     private static void spans() {

@@ -48,16 +48,19 @@ public final class TextTest {
     }
 
     private static void added() {
-        SemverRanges x = new SemverRanges();
-        Checks.type(x, "9.8.7");
-        Checks.due("read of what was typed", x.read(0), 1);
-        Checks.due("the characters are in their order", x.atLeast(0, 0), 987);
-        for (int i = 0; i < ALLOWED.length(); i++) {
-            SemverRanges y = new SemverRanges();
-            y.type('1');
-            Checks.due("type('" + ALLOWED.charAt(i) + "')", y.type(ALLOWED.charAt(i)), 2);
-            Checks.due("\"1" + ALLOWED.charAt(i) + "\" is not a range", y.read(0), Checks.NONE);
+        for (int digit = 0; digit <= 9; digit++) {
+            Checks.dueRead(digit + ".8.7", 100 * digit + 87, 100 * digit + 87);
         }
+        // One text for each sign, with a meaning that it has by this sign alone.
+        Checks.dueRead("*", 0, 999);
+        Checks.dueRead("1|2", 100, 299);
+        Checks.dueRead("1 1.2", 120, 129);
+        Checks.dueRead("<3", 0, 299);
+        Checks.dueRead(">3", 400, 999);
+        Checks.dueRead("<=3", 0, 399);
+        Checks.dueRead("^3.4", 340, 399);
+        Checks.dueRead("~3.4.5", 345, 349);
+        Checks.dueRead("3-5", 300, 599);
     }
 
     private static SemverRanges withFullText() {
