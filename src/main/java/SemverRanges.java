@@ -1,4 +1,4 @@
-/** Ranges of versions, read from text and kept as unions of intervals. */
+/** Ranges of versions, read from text and put together as sets; the document says what each call promises. */
 public final class SemverRanges {
     public static final int BAD = -1;
     public static final int FULL = -2;
@@ -24,7 +24,8 @@ public final class SemverRanges {
     private static final int CARET = 5;
     private static final int TILDE = 6;
 
-    // Whether version v is in set s stands at s * VERSIONS + v.
+    // Whether version v is in set s stands at s * VERSIONS + v. Marks, and not a list of intervals, as a list would
+    // have to be kept sorted and merged.
     private final boolean[] members = new boolean[ALL_CELLS];
 
     private final char[] text = new char[TEXT_SIZE];
